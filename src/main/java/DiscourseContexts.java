@@ -9,6 +9,7 @@ public final class DiscourseContexts {
     public static final int NONE = -7;
 
     private static final int MOST_INDIVIDUALS = 3;
+    private static final int MOST_OBJECTS = 7;
     private static final int INDIVIDUALS_AT_FIRST = 2;
     private static final int PREDICATES = 3;
     private static final int RELATIONS = 2;
@@ -55,7 +56,7 @@ public final class DiscourseContexts {
         if (individuals < 1 || individuals > MOST_INDIVIDUALS) {
             return INVALID_ARGUMENT;
         }
-        int previous = now.world.count;
+        int previous = now.world.population;
         history.record(now);
         now.world.begin(individuals);
         now.forgetContext();
@@ -83,7 +84,7 @@ public final class DiscourseContexts {
     }
 
     public int individuals() {
-        return now.world.count;
+        return now.world.population;
     }
 
     public int predicate(int predicate) {
@@ -191,7 +192,7 @@ public final class DiscourseContexts {
     // ---- accepting
 
     public int accept() {
-        int size = tryText();
+        int size = tryAccepting(parser.discourse());
         if (size < 0) {
             return size;
         }
@@ -203,11 +204,11 @@ public final class DiscourseContexts {
     }
 
     public int acceptable() {
-        return tryText();
+        return tryAccepting(parser.discourse());
     }
 
     public int failingAt() {
-        int size = tryText();
+        int size = tryAccepting(parser.discourse());
         if (size == PRESUPPOSITION_FAILS) {
             return acceptance.failingPlace;
         }
@@ -250,7 +251,7 @@ public final class DiscourseContexts {
         int behind = 0;
         results.copyFrom(now.context);
         for (Node part = discourse.first; part != null && behind < parts; part = part.next) {
-            meaning.turnIntoResults(part, results);
+            meaning.turn(part, results, false);
             behind++;
         }
         return behind == parts ? results.size() : NONE;
@@ -300,8 +301,7 @@ public final class DiscourseContexts {
     }
 
     /** What accept() answers; its outcome is left in acceptance and knowledge. */
-    private int tryText() {
-        Node discourse = parser.discourse();
+    private int tryAccepting(Node discourse) {
         if (discourse == null) {
             return SYNTAX_FAULT;
         }
@@ -313,12 +313,12 @@ public final class DiscourseContexts {
 
     private boolean isTrueInOtherWorld(Node discourse) {
         results.makeFirst();
-        otherMeaning.turnIntoResults(discourse, results);
+        otherMeaning.turn(discourse, results, false);
         return !results.isEmpty();
     }
 
     private boolean isIndividual(int individual) {
-        return individual >= 0 && individual < now.world.count;
+        return individual >= 0 && individual < now.world.population;
     }
 
     private boolean isObject(int object) {
@@ -350,6 +350,9 @@ public final class DiscourseContexts {
         private static final int WORDS = 8;
         private static final int ALL_VALUES = 255;
         private static final long LOW_BITS = 0x0101010101010101L;
+        // Copies of a set of values, each seven bits on, have the bit of the value k at 8 * k. They
+        // do not disturb one another, because no set that is multiplied by this has the value 0.
+        private static final long SEVEN_ON = 0x0002040810204081L;
 
         private final long[] words = new long[WORDS];
 
@@ -425,12 +428,18 @@ public final class DiscourseContexts {
 
         int valuesOf(int variable) {
             int values = 0;
-            for (int value = 0; value < WORDS; value++) {
+            for (int value = 1; value <= MOST_OBJECTS; value++) {
                 if (countOf(variable, value, variable, value) > 0) {
                     values |= 1 << value;
                 }
             }
             return values;
+        }
+
+        void keepValues(int variable, int values) {
+            for (int w = 0; w < WORDS; w++) {
+                words[w] &= mask(variable, values, w);
+            }
         }
 
         /** Of the assignments that give value to variable, keeps those that give one of the values to other. */
@@ -483,23 +492,19 @@ public final class DiscourseContexts {
             if (variable == 2) {
                 return (values >>> word & 1) != 0 ? -1L : 0L;
             }
-            long mask = 0L;
-            for (int value = 0; value < WORDS; value++) {
-                mask |= (values >>> value & 1) != 0 ? (long) ALL_VALUES << value * WORDS : 0L;
-            }
-            return mask;
+            return (values * SEVEN_ON & LOW_BITS) * ALL_VALUES;
         }
     }
 
     /** Individuals with the sets of the predicates and relations. */
     private static final class World {
-        private int count = INDIVIDUALS_AT_FIRST;
+        private int population = INDIVIDUALS_AT_FIRST;
         private final int[] sets = new int[PREDICATES];
         // Bit MOST_INDIVIDUALS * from + to of an element stands for a pair.
         private final int[] pairs = new int[RELATIONS];
 
         void begin(int individuals) {
-            count = individuals;
+            population = individuals;
             for (int predicate = 0; predicate < PREDICATES; predicate++) {
                 sets[predicate] = 0;
             }
@@ -509,7 +514,7 @@ public final class DiscourseContexts {
         }
 
         void copyFrom(World other) {
-            count = other.count;
+            population = other.population;
             for (int predicate = 0; predicate < PREDICATES; predicate++) {
                 sets[predicate] = other.sets[predicate];
             }
@@ -520,7 +525,7 @@ public final class DiscourseContexts {
 
         /** The largest object. */
         int everybody() {
-            return (1 << count) - 1;
+            return (1 << population) - 1;
         }
 
         int setOf(int predicate) {
@@ -534,7 +539,7 @@ public final class DiscourseContexts {
         }
 
         boolean hasPair(int relation, int from, int to) {
-            return (partners(relation, from) >>> to & 1) != 0;
+            return isRelation(relation) && (pairs[relation] >>> MOST_INDIVIDUALS * from + to & 1) != 0;
         }
 
         void putPair(int relation, int from, int to, boolean holds) {
@@ -544,17 +549,14 @@ public final class DiscourseContexts {
             }
         }
 
-        /** The individuals that the relation goes to from the given one. */
-        private int partners(int relation, int from) {
-            int all = (1 << MOST_INDIVIDUALS) - 1;
-            return isRelation(relation) ? pairs[relation] >>> MOST_INDIVIDUALS * from & all : 0;
-        }
-
         boolean relates(int relation, int one, int other) {
+            if (!isRelation(relation)) {
+                return false;
+            }
             int reached = 0;
             for (int from = 0; from < MOST_INDIVIDUALS; from++) {
                 if ((one >>> from & 1) != 0) {
-                    int partners = partners(relation, from) & other;
+                    int partners = pairs[relation] >>> MOST_INDIVIDUALS * from & other;
                     if (partners == 0) {
                         return false;
                     }
@@ -664,14 +666,6 @@ public final class DiscourseContexts {
         private final Assignments found = new Assignments();
         private final Assignments foundInRow = new Assignments();
 
-        void begin(int newKind) {
-            kind = newKind;
-            first = null;
-            last = null;
-            next = null;
-            previous = null;
-        }
-
         void add(Node piece) {
             piece.previous = last;
             if (last == null) {
@@ -732,7 +726,7 @@ public final class DiscourseContexts {
 
         private Node formula() {
             Node ahead = choice();
-            if (ahead == null || next() != '>') {
+            if (ahead == null || text.at(position) != '>') {
                 return ahead;
             }
             if (!openSign()) {
@@ -745,7 +739,7 @@ public final class DiscourseContexts {
 
         private Node choice() {
             Node choice = row();
-            if (next() == '|') {
+            if (text.at(position) == '|') {
                 choice = holding(CHOICE, choice);
             }
             for (int i = 0; i < TEXT_ROOM && choice != null && skip('|'); i++) {
@@ -756,7 +750,7 @@ public final class DiscourseContexts {
 
         private Node row() {
             Node row = unit();
-            if (next() == '&') {
+            if (text.at(position) == '&') {
                 row = holding(ROW, row);
             }
             for (int i = 0; i < TEXT_ROOM && row != null && skip('&'); i++) {
@@ -766,7 +760,7 @@ public final class DiscourseContexts {
         }
 
         private Node unit() {
-            char sign = next();
+            char sign = text.at(position);
             switch (sign) {
                 case '!':
                     return negation();
@@ -786,7 +780,7 @@ public final class DiscourseContexts {
                     return aboutTwo(sign - 's');
                 case '#':
                     position++;
-                    return count();
+                    return count(text.at(position) - '0');
                 default:
                     return comparison();
             }
@@ -820,8 +814,7 @@ public final class DiscourseContexts {
             return skipVariable() && skipVariable() ? simple(RELATION, relation, start, start + 1) : null;
         }
 
-        private Node count() {
-            int number = next() - '0';
+        private Node count(int number) {
             if (number < 1 || number > MOST_INDIVIDUALS) {
                 return null;
             }
@@ -834,7 +827,7 @@ public final class DiscourseContexts {
             if (!skipVariable()) {
                 return null;
             }
-            int kind = next() == '=' ? EQUAL : WITHIN;
+            int kind = text.at(position) == '=' ? EQUAL : WITHIN;
             if (!skip('=') && !skip('<')) {
                 return null;
             }
@@ -871,16 +864,16 @@ public final class DiscourseContexts {
             }
             Node node = nodes[used];
             used++;
-            node.begin(kind);
+            node.kind = kind;
+            node.first = null;
+            node.last = null;
+            node.next = null;
+            node.previous = null;
             return node;
         }
 
-        private char next() {
-            return text.at(position);
-        }
-
         private boolean skip(char sign) {
-            if (next() != sign) {
+            if (text.at(position) != sign) {
                 return false;
             }
             position++;
@@ -888,7 +881,12 @@ public final class DiscourseContexts {
         }
 
         private boolean skipVariable() {
-            return skip('x') || skip('y') || skip('z');
+            char sign = text.at(position);
+            if (sign < 'x' || sign > 'z') {
+                return false;
+            }
+            position++;
+            return true;
         }
 
         private boolean openSign() {
@@ -974,23 +972,11 @@ public final class DiscourseContexts {
             this.world = world;
         }
 
-        /** Turns a set into that of all results of the node for its assignments. */
-        void turnIntoResults(Node node, Assignments set) {
-            turn(node, set, false);
-        }
-
-        /** Turns a set into that of all assignments for which the node has results. */
-        void findSupporting(Node node, Assignments set) {
-            set.fill(-1L);
-            turnIntoSources(node, set);
-        }
-
-        /** Turns a set into that of all assignments for which the node has a result in it. */
-        private void turnIntoSources(Node node, Assignments set) {
-            turn(node, set, true);
-        }
-
-        private void turn(Node node, Assignments set, boolean back) {
+        /**
+         * Turns a set into that of all results of the node for its assignments, or, going back,
+         * into that of all assignments for which the node has a result in the set.
+         */
+        void turn(Node node, Assignments set, boolean back) {
             if (node == null) {
                 return;
             }
@@ -1013,10 +999,20 @@ public final class DiscourseContexts {
                 case CONDITION:
                     keepByCondition(node, set);
                     break;
+                case PREDICATE:
+                case COUNT:
+                    keepByOne(node, set);
+                    break;
                 default:
-                    keepBySimple(node, set);
+                    keepByTwo(node, set);
                     break;
             }
+        }
+
+        /** Turns a set into that of all assignments for which the node has results. */
+        void findSupporting(Node node, Assignments set) {
+            set.fill(-1L);
+            turn(node, set, true);
         }
 
         private void turnByChain(Node node, Assignments set, boolean back) {
@@ -1045,25 +1041,28 @@ public final class DiscourseContexts {
             Assignments refuted = node.found;
             findSupporting(node.last, refuted);
             refuted.complement();
-            turnIntoSources(node.first, refuted);
+            turn(node.first, refuted, true);
             set.remove(refuted);
         }
 
-        private void keepBySimple(Node node, Assignments set) {
-            for (int object = 1; object <= world.everybody(); object++) {
-                set.keepPartners(node.variable, object, node.otherVariable, partners(node, object));
+        private void keepByOne(Node node, Assignments set) {
+            int values = 0;
+            int everybody = world.everybody();
+            for (int object = 1; object <= everybody; object++) {
+                values |= holds(node, object, object) ? 1 << object : 0;
             }
+            set.keepValues(node.variable, values);
         }
 
-        /** The objects that its other variable can have when its variable has the given one. */
-        private int partners(Node node, int object) {
-            int partners = 0;
-            for (int other = 1; other <= world.everybody(); other++) {
-                if (holds(node, object, other)) {
-                    partners |= 1 << other;
+        private void keepByTwo(Node node, Assignments set) {
+            int everybody = world.everybody();
+            for (int object = 1; object <= everybody; object++) {
+                int partners = 0;
+                for (int other = 1; other <= everybody; other++) {
+                    partners |= holds(node, object, other) ? 1 << other : 0;
                 }
+                set.keepPartners(node.variable, object, node.otherVariable, partners);
             }
-            return partners;
         }
 
         private boolean holds(Node node, int object, int other) {
@@ -1102,28 +1101,20 @@ public final class DiscourseContexts {
             accommodatedParts = 0L;
             failingPlace = NONE;
             for (Node part = discourse.first; part != null; part = part.next) {
-                if (!isTaken(part, number, state.accommodating)) {
+                boolean supported = true;
+                if (part.kind == PRESUPPOSITION) {
+                    meaning.findSupporting(part, supporting);
+                    supported = context.isWithin(supporting);
+                }
+                meaning.turn(part, context, false);
+                if (!supported && (!state.accommodating || context.isEmpty())) {
                     failingPlace = part.place;
                     return false;
                 }
+                accommodatedParts |= supported ? 0L : 1L << number;
                 number++;
             }
             return true;
-        }
-
-        private boolean isTaken(Node part, int number, boolean accommodating) {
-            boolean supported = part.kind == PART || isSupported(part);
-            meaning.turnIntoResults(part, context);
-            if (supported) {
-                return true;
-            }
-            accommodatedParts |= 1L << number;
-            return accommodating && !context.isEmpty();
-        }
-
-        private boolean isSupported(Node part) {
-            meaning.findSupporting(part, supporting);
-            return context.isWithin(supporting);
         }
     }
 }

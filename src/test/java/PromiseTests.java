@@ -869,6 +869,10 @@ public final class PromiseTests {
         d.setIndividuals(2);
         due("accept", accept(d, "Ex;Ex;Ex;Ex;Ex;Ex;Ex;Ex;Ex;Ex;Ex;Ex;Ex;Ex;Ex;Ex;[#1x]"), 2);
         due("accommodatedPart(0), late", d.accommodatedPart(0), 16);
+        accept(d, "Ex");
+        due("accept", accept(d, "[#1x];[#1x];[x<x]"), 2);
+        due("accommodatedPart(0), the first part", d.accommodatedPart(0), 0);
+        due("accommodatedPart(1)", d.accommodatedPart(1), NONE);
     }
 
     private static void sizesBehind() {
@@ -929,6 +933,11 @@ public final class PromiseTests {
             due("Ex;qx", write(d, "Ex;qx").worldsTrue(), (sets - 1) * sets);
             due("Ex>px", write(d, "Ex>px").worldsTrue(), sets);
             due("!(Ex&px)", write(d, "!(Ex&px)").worldsTrue(), sets);
+            due("!(Ey&py)", write(d, "!(Ey&py)").worldsTrue(), sets);
+            due("!(Ez&pz)", write(d, "!(Ez&pz)").worldsTrue(), sets);
+            due("Ez&!(Ex&sxz)", write(d, "Ez&!(Ex&sxz)").worldsTrue(), sets * sets);
+            due("Ez&!(Ey&syz)", write(d, "Ez&!(Ey&syz)").worldsTrue(), sets * sets);
+            due("Ex&!(Ez&szx)", write(d, "Ex&!(Ez&szx)").worldsTrue(), sets * sets);
             due("Ex&rx", write(d, "Ex&rx").worldsTrue(), 0);
             d.setPredicate(2, 1);
             due("Ex&rx", write(d, "Ex&rx").worldsTrue(), sets * sets);
