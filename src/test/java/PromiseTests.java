@@ -1,82 +1,5 @@
-/** For each promise of the document: ordinary inputs, the edges that it names, and wrong inputs. */
-public final class PromiseTests {
-    private static final int INVALID = -1;
-    private static final int SYNTAX = -2;
-    private static final int UNKNOWN = -3;
-    private static final int FAILS = -4;
-    private static final int FULL = -5;
-    private static final int ILLEGAL = -6;
-    private static final int NONE = -7;
-    private static final int LEAST = Integer.MIN_VALUE;
-    private static final int MOST = Integer.MAX_VALUE;
-
-    private static int wrong = 0;
-    private static int promise = 0;
-
-    private static void due(String what, int got, int want) {
-        if (got != want) {
-            wrong++;
-            System.out.println("promise " + promise + ": " + what + " answered " + got + ", due is " + want);
-        }
-    }
-
-    private static DiscourseContexts fresh(int individuals) {
-        DiscourseContexts d = new DiscourseContexts();
-        if (individuals != 2) d.setIndividuals(individuals);
-        return d;
-    }
-
-    private static DiscourseContexts write(DiscourseContexts d, String text) {
-        d.clearText();
-        for (int i = 0; i < text.length(); i++) d.type(text.charAt(i));
-        return d;
-    }
-
-    private static DiscourseContexts written(String text) {
-        return write(new DiscourseContexts(), text);
-    }
-
-    private static int accept(DiscourseContexts d, String text) {
-        return write(d, text).accept();
-    }
-
-    /** All that the questions tell of a state, to see that a call changes nothing. */
-    private static String told(DiscourseContexts d) {
-        StringBuilder told = new StringBuilder();
-        told.append(d.individuals()).append(' ').append(d.contextSize()).append(' ').append(d.known());
-        told.append(' ').append(d.historySize()).append(' ').append(d.accommodated());
-        for (int i = 0; i < 4; i++) told.append(' ').append(d.accommodatedPart(i));
-        for (int i = 0; i < 3; i++) told.append(' ').append(d.predicate(i)).append(' ').append(d.objects(i));
-        for (int one = 1; one < 8; one++) {
-            for (int other = 1; other < 8; other++) {
-                told.append(' ').append(d.relationHolds(0, one, other)).append(d.relationHolds(1, one, other));
-                told.append(d.together(0, one, 1, other)).append(d.together(1, one, 2, other));
-            }
-        }
-        told.append(' ').append(d.syntaxFault()).append(' ').append(d.unknownVariable()).append(' ').append(d.unknownDepth());
-        told.append(' ').append(d.partCount()).append(' ').append(d.acceptable()).append(' ').append(d.failingAt());
-        for (int i = 0; i < 4; i++) told.append(' ').append(d.sizeBehind(i));
-        return told.append(' ').append(d.supports()).append(' ').append(d.worldsTrue()).toString();
-    }
-
-    private static void same(String what, String got, String want) {
-        if (!got.equals(want)) {
-            wrong++;
-            System.out.println("promise " + promise + ": " + what + " changed\n  " + want + "\nto\n  " + got);
-        }
-    }
-
-    /** A world with a context, a text and an accommodated part, so that a change of any can be seen. */
-    private static DiscourseContexts lived() {
-        DiscourseContexts d = new DiscourseContexts();
-        d.setPredicate(0, 3);
-        d.setPredicate(1, 1);
-        d.setPair(0, 0, 1, 1);
-        d.setAccommodation(1);
-        accept(d, "Ex;[qx];Ey");
-        return d;
-    }
-
+/** For each promise of the document: ordinary inputs, some edges, and wrong inputs; all edges stand in the boundary tests. */
+public final class PromiseTests extends Checks {
     public static void main(String[] arguments) {
         aNewObject();
         settingIndividuals();
@@ -110,16 +33,14 @@ public final class PromiseTests {
         historySizes();
         undoing();
         undoingEachAction();
-        errorsChangeNothing();
         meaningOfUnits();
         meaningOfSigns();
         textsThatBlowUp();
-        System.out.println(wrong == 0 ? "all answers are as due" : wrong + " answers are not as due");
-        if (wrong != 0) System.exit(1);
+        finish();
     }
 
     private static void aNewObject() {
-        promise = 1;
+        promise(1);
         DiscourseContexts d = new DiscourseContexts();
         due("individuals", d.individuals(), 2);
         for (int predicate = 0; predicate < 3; predicate++) due("predicate " + predicate, d.predicate(predicate), 0);
@@ -147,7 +68,7 @@ public final class PromiseTests {
     }
 
     private static void settingIndividuals() {
-        promise = 2;
+        promise(2);
         DiscourseContexts d = new DiscourseContexts();
         due("setIndividuals(3)", d.setIndividuals(3), 2);
         due("setIndividuals(1)", d.setIndividuals(1), 3);
@@ -159,7 +80,7 @@ public final class PromiseTests {
         due("historySize", d.historySize(), 4);
         due("individuals", d.individuals(), 2);
 
-        DiscourseContexts e = lived();
+        DiscourseContexts e = lived(2);
         e.setPredicate(2, 2);
         e.setPair(1, 1, 1, 1);
         due("setIndividuals(2)", e.setIndividuals(2), 2);
@@ -175,9 +96,9 @@ public final class PromiseTests {
     }
 
     private static void settingPredicates() {
-        promise = 3;
+        promise(3);
         for (int individuals = 1; individuals <= 3; individuals++) {
-            DiscourseContexts d = fresh(individuals);
+            DiscourseContexts d = world(individuals);
             int all = (1 << individuals) - 1;
             for (int predicate = 0; predicate < 3; predicate++) {
                 due("first set", d.setPredicate(predicate, all), 0);
@@ -208,10 +129,10 @@ public final class PromiseTests {
     }
 
     private static void settingPairs() {
-        promise = 4;
+        promise(4);
         for (int individuals = 1; individuals <= 3; individuals++) {
             for (int relation = 0; relation < 2; relation++) {
-                DiscourseContexts d = fresh(individuals);
+                DiscourseContexts d = world(individuals);
                 for (int pair = 0; pair < individuals * individuals; pair++) {
                     int from = pair / individuals;
                     int to = pair % individuals;
@@ -246,7 +167,7 @@ public final class PromiseTests {
     }
 
     private static void individuals() {
-        promise = 5;
+        promise(5);
         DiscourseContexts d = new DiscourseContexts();
         due("individuals", d.individuals(), 2);
         for (int individuals = 1; individuals <= 3; individuals++) {
@@ -258,8 +179,8 @@ public final class PromiseTests {
     }
 
     private static void predicates() {
-        promise = 6;
-        DiscourseContexts d = fresh(3);
+        promise(6);
+        DiscourseContexts d = world(3);
         d.setPredicate(0, 5);
         d.setPredicate(1, 2);
         d.setPredicate(2, 7);
@@ -273,8 +194,8 @@ public final class PromiseTests {
     }
 
     private static void relations() {
-        promise = 7;
-        DiscourseContexts d = fresh(3);
+        promise(7);
+        DiscourseContexts d = world(3);
         d.setPair(1, 0, 1, 1);
         d.setPair(1, 2, 1, 1);
         d.setPair(1, 2, 2, 1);
@@ -296,17 +217,17 @@ public final class PromiseTests {
             due("one " + object, d.relationHolds(0, object, 1), INVALID);
             due("other " + object, d.relationHolds(0, 1, object), INVALID);
         }
-        DiscourseContexts small = fresh(1);
+        DiscourseContexts small = world(1);
         due("object 1 of one individual", small.relationHolds(0, 1, 1), 0);
         due("object 2 of one individual", small.relationHolds(0, 1, 2), INVALID);
         due("object 2 of one individual", small.relationHolds(0, 2, 1), INVALID);
-        DiscourseContexts middle = fresh(2);
+        DiscourseContexts middle = world(2);
         due("object 3 of two individuals", middle.relationHolds(0, 3, 3), 0);
         due("object 4 of two individuals", middle.relationHolds(0, 4, 1), INVALID);
     }
 
     private static void typing() {
-        promise = 8;
+        promise(8);
         DiscourseContexts d = new DiscourseContexts();
         int[] outside = {31, 127, 0, -1, 65536 + 'x', LEAST, MOST};
         for (int character : outside) due("type(" + character + ")", d.type(character), INVALID);
@@ -326,7 +247,7 @@ public final class PromiseTests {
     }
 
     private static void clearing() {
-        promise = 9;
+        promise(9);
         DiscourseContexts d = written("Ex;px");
         due("clearText", d.clearText(), 5);
         due("clearText again", d.clearText(), 0);
@@ -344,7 +265,7 @@ public final class PromiseTests {
     }
 
     private static void syntaxFaults() {
-        promise = 10;
+        promise(10);
         String[] sound = {"Ex", "px", "qy", "rz", "sxy", "tzz", "x=y", "z<x", "#1x", "#2y", "#3z", "!px", "!!px", "(px)",
             "((Ex))", "!(Ex&px)", "px&qx", "px|qx", "px>qx", "px>qx>rx", "px;qx", "[px]", "[px];[qx]", "[px>qx];Ex|Ey",
             "Ex&(px|qx)&!rx>sxx|(x=x)", "[(px)]", "[!px>(qx|rx)&x<x]"};
@@ -436,7 +357,7 @@ public final class PromiseTests {
     }
 
     private static void openSigns() {
-        promise = 10;
+        promise(10);
         fault("!!!!!!!!px", NONE);
         fault("!!!!!!!!!px", 8);
         fault("((((((((px))))))))", NONE);
@@ -470,14 +391,14 @@ public final class PromiseTests {
     }
 
     private static void unknown(String text, int want, int depth) {
-        promise = 11;
+        promise(11);
         due("unknownVariable of \"" + text + "\"", written(text).unknownVariable(), want);
-        promise = 12;
+        promise(12);
         due("unknownDepth of \"" + text + "\"", written(text).unknownDepth(), depth);
     }
 
     private static void unknownVariables() {
-        promise = 11;
+        promise(11);
         unknown("", SYNTAX, SYNTAX);
         unknown("px&", SYNTAX, SYNTAX);
         unknown("Ex", NONE, NONE);
@@ -517,7 +438,7 @@ public final class PromiseTests {
         unknown("Ex>px;qx", 7, 0);
         unknown("Ex>Ey&px;qy", 10, 0);
 
-        promise = 11;
+        promise(11);
         DiscourseContexts d = new DiscourseContexts();
         accept(d, "Ey");
         write(d, "py&px");
@@ -561,7 +482,7 @@ public final class PromiseTests {
     }
 
     private static void partCounts() {
-        promise = 13;
+        promise(13);
         due("partCount", written("Ex").partCount(), 1);
         due("partCount", written("Ex;px").partCount(), 2);
         due("partCount", written("[Ex];px;[qx]").partCount(), 3);
@@ -572,9 +493,9 @@ public final class PromiseTests {
     }
 
     private static void contextSizes() {
-        promise = 14;
+        promise(14);
         for (int individuals = 1; individuals <= 3; individuals++) {
-            DiscourseContexts d = fresh(individuals);
+            DiscourseContexts d = world(individuals);
             int all = (1 << individuals) - 1;
             due("first", d.contextSize(), 1);
             accept(d, "Ex");
@@ -591,7 +512,7 @@ public final class PromiseTests {
     }
 
     private static void known() {
-        promise = 15;
+        promise(15);
         DiscourseContexts d = new DiscourseContexts();
         due("known", d.known(), 0);
         accept(d, "Ez");
@@ -617,8 +538,8 @@ public final class PromiseTests {
     }
 
     private static void objects() {
-        promise = 16;
-        DiscourseContexts d = fresh(3);
+        promise(16);
+        DiscourseContexts d = world(3);
         d.setPredicate(0, 5);
         due("objects(0)", d.objects(0), NONE);
         due("objects(-1)", d.objects(-1), INVALID);
@@ -638,8 +559,8 @@ public final class PromiseTests {
     }
 
     private static void together() {
-        promise = 17;
-        DiscourseContexts d = fresh(2);
+        promise(17);
+        DiscourseContexts d = world(2);
         due("nothing known", d.together(0, 1, 0, 1), NONE);
         accept(d, "Ex;Ey;x<y;Ez");
         due("x 1, y 3", d.together(0, 1, 1, 3), 3);
@@ -674,8 +595,8 @@ public final class PromiseTests {
     }
 
     private static void resetting() {
-        promise = 18;
-        DiscourseContexts d = lived();
+        promise(18);
+        DiscourseContexts d = lived(2);
         due("resetContext", d.resetContext(), 3);
         due("contextSize", d.contextSize(), 1);
         due("known", d.known(), 0);
@@ -698,7 +619,7 @@ public final class PromiseTests {
     }
 
     private static void settingAccommodation() {
-        promise = 19;
+        promise(19);
         DiscourseContexts d = new DiscourseContexts();
         due("setAccommodation(1)", d.setAccommodation(1), 0);
         due("setAccommodation(1)", d.setAccommodation(1), 1);
@@ -719,7 +640,7 @@ public final class PromiseTests {
     }
 
     private static void accepting() {
-        promise = 20;
+        promise(20);
         DiscourseContexts d = new DiscourseContexts();
         d.setPredicate(0, 1);
         due("empty text", d.accept(), SYNTAX);
@@ -739,14 +660,14 @@ public final class PromiseTests {
         due("contextSize", d.contextSize(), 0);
         due("none of none", accept(d, "Ey;[!(x=x)]"), 0);
         due("known", d.known(), 3);
-        DiscourseContexts e = fresh(3);
+        DiscourseContexts e = world(3);
         due("all assignments", accept(e, "Ex;Ey;Ez"), 343);
         due("parts one behind the other", accept(e, "x<y;y<z;#1x;#2y;#3z"), 6);
         due("renewed", accept(e, "Ex"), 21);
     }
 
     private static void acceptingPresuppositions() {
-        promise = 20;
+        promise(20);
         DiscourseContexts d = new DiscourseContexts();
         d.setPredicate(0, 1);
         due("a supported one that makes known", accept(d, "[Ex&px]"), 1);
@@ -776,7 +697,7 @@ public final class PromiseTests {
     }
 
     private static void acceptable() {
-        promise = 21;
+        promise(21);
         DiscourseContexts d = new DiscourseContexts();
         d.setPredicate(0, 1);
         due("empty text", d.acceptable(), SYNTAX);
@@ -796,7 +717,7 @@ public final class PromiseTests {
     }
 
     private static void failing() {
-        promise = 22;
+        promise(22);
         DiscourseContexts d = new DiscourseContexts();
         d.setPredicate(0, 1);
         due("empty text", d.failingAt(), SYNTAX);
@@ -819,7 +740,7 @@ public final class PromiseTests {
     }
 
     private static void accommodated() {
-        promise = 23;
+        promise(23);
         DiscourseContexts d = new DiscourseContexts();
         d.setPredicate(0, 1);
         d.setAccommodation(1);
@@ -845,7 +766,7 @@ public final class PromiseTests {
     }
 
     private static void accommodatedParts() {
-        promise = 24;
+        promise(24);
         DiscourseContexts d = new DiscourseContexts();
         d.setAccommodation(1);
         due("accommodatedPart(0)", d.accommodatedPart(0), NONE);
@@ -876,7 +797,7 @@ public final class PromiseTests {
     }
 
     private static void sizesBehind() {
-        promise = 25;
+        promise(25);
         DiscourseContexts d = new DiscourseContexts();
         due("sizeBehind(-1) of the empty text", d.sizeBehind(-1), INVALID);
         due("sizeBehind(least)", d.sizeBehind(LEAST), INVALID);
@@ -898,7 +819,7 @@ public final class PromiseTests {
     }
 
     private static void supporting() {
-        promise = 26;
+        promise(26);
         DiscourseContexts d = new DiscourseContexts();
         d.setPredicate(0, 1);
         due("empty text", d.supports(), SYNTAX);
@@ -922,10 +843,10 @@ public final class PromiseTests {
     }
 
     private static void worldsTrue() {
-        promise = 27;
+        promise(27);
         int[] worlds = {4, 16, 64};
         for (int individuals = 1; individuals <= 3; individuals++) {
-            DiscourseContexts d = fresh(individuals);
+            DiscourseContexts d = world(individuals);
             int sets = 1 << individuals;
             due("Ex", write(d, "Ex").worldsTrue(), worlds[individuals - 1]);
             due("Ex&!(x=x)", write(d, "Ex&!(x=x)").worldsTrue(), 0);
@@ -962,7 +883,7 @@ public final class PromiseTests {
     }
 
     private static void historySizes() {
-        promise = 28;
+        promise(28);
         DiscourseContexts d = new DiscourseContexts();
         int[] sizes = {1, 2, 3, 4, 5, 5, 5};
         due("historySize", d.historySize(), 0);
@@ -987,7 +908,7 @@ public final class PromiseTests {
     }
 
     private static void undoing() {
-        promise = 29;
+        promise(29);
         DiscourseContexts d = new DiscourseContexts();
         due("undo of nothing", d.undo(), ILLEGAL);
         for (int set = 1; set <= 7; set++) d.setPredicate(0, set % 4);
@@ -1008,92 +929,24 @@ public final class PromiseTests {
         due("predicate(0)", d.predicate(0), 2);
     }
 
-    private static void undone(String what, DiscourseContexts d, String before) {
-        due("undo of " + what, d.undo(), 4);
-        d.resetContext();
-        d.undo();
-        same("undo of " + what, told(d), before);
-    }
-
     private static void undoingEachAction() {
-        promise = 29;
-        DiscourseContexts d = lived();
-        d.resetContext();
-        d.undo();
-        String before = told(d);
-        d.setIndividuals(3);
-        undone("setIndividuals", d, before);
-        d.setPredicate(0, 2);
-        undone("setPredicate", d, before);
-        d.setPair(1, 1, 0, 1);
-        undone("setPair", d, before);
-        d.resetContext();
-        undone("resetContext", d, before);
-        d.setAccommodation(0);
-        undone("setAccommodation", d, before);
-        d.accept();
-        undone("accept", d, before);
-        d.setAccommodation(0);
-        d.undo();
-        due("accommodation behind undo", d.setAccommodation(1), 1);
-        d.undo();
+        promise(29);
+        Made lived = () -> lived(2);
+        acted("setIndividuals(3)", lived, d -> d.setIndividuals(3), 2);
+        acted("setPredicate(0, 2)", lived, d -> d.setPredicate(0, 2), 3);
+        acted("setPair(1, 1, 0, 1)", lived, d -> d.setPair(1, 1, 0, 1), 0);
+        acted("resetContext()", lived, DiscourseContexts::resetContext, 3);
+        acted("setAccommodation(0)", lived, d -> d.setAccommodation(0), 1);
+        acted("accept()", lived, DiscourseContexts::accept, 3);
+        DiscourseContexts d = lived(2);
         d.setIndividuals(1);
         write(d, "Ez");
         d.undo();
         due("the text is no part of a state", d.clearText(), 2);
     }
 
-    private static void errorsChangeNothing() {
-        DiscourseContexts d = lived();
-        String before = told(d);
-        int[][] wrongNumbers = {{-1}, {99}, {LEAST}, {MOST}};
-        for (int[] wrongNumber : wrongNumbers) {
-            int n = wrongNumber[0];
-            promise = 2;
-            due("error", d.setIndividuals(n), INVALID);
-            promise = 3;
-            due("error", d.setPredicate(n, 0), INVALID);
-            due("error", d.setPredicate(1, n), INVALID);
-            promise = 4;
-            due("error", d.setPair(n, 1, 1, 1), INVALID);
-            due("error", d.setPair(1, n, 1, 1), INVALID);
-            due("error", d.setPair(1, 1, n, 1), INVALID);
-            due("error", d.setPair(1, 1, 1, n), INVALID);
-            promise = 8;
-            if (n != 99) due("error", d.type(n), INVALID);
-            promise = 19;
-            due("error", d.setAccommodation(n), INVALID);
-            same("a call that returns an error", told(d), before);
-        }
-        promise = 20;
-        d.setAccommodation(0);
-        write(d, "[px&!px];Ey");
-        before = told(d);
-        due("accept", d.accept(), FAILS);
-        same("accept that fails", told(d), before);
-        write(d, "Ex;pz");
-        before = told(d);
-        due("accept", d.accept(), UNKNOWN);
-        same("accept with an unknown variable", told(d), before);
-        write(d, "Ex;");
-        before = told(d);
-        due("accept", d.accept(), SYNTAX);
-        same("accept with a fault", told(d), before);
-        promise = 8;
-        write(d, "Ex;Ex;Ex;Ex;Ex;Ex;Ex;Ex;Ex;Ex;Ex;Ex;Ex;Ex;Ex;Ex;Ex;Ex;Ex;Exx");
-        before = told(d);
-        due("type", d.type('x'), FULL);
-        same("type into a full text", told(d), before);
-        promise = 29;
-        DiscourseContexts e = new DiscourseContexts();
-        write(e, "Ex");
-        before = told(e);
-        due("undo", e.undo(), ILLEGAL);
-        same("undo of nothing", told(e), before);
-    }
-
     private static int objectsBehind(int individuals, String text) {
-        DiscourseContexts d = fresh(individuals);
+        DiscourseContexts d = world(individuals);
         for (int predicate = 0; predicate < 3; predicate++) d.setPredicate(predicate, (predicate + 3) & (1 << individuals) - 1);
         accept(d, text);
         return d.objects(0);
@@ -1101,7 +954,7 @@ public final class PromiseTests {
 
     /** With three individuals the sets of p, q and r are 3 (0 and 1), 4 (2) and 5 (0 and 2). */
     private static void meaningOfUnits() {
-        promise = 20;
+        promise(20);
         due("Ex", objectsBehind(3, "Ex"), 254);
         due("px", objectsBehind(3, "Ex&px"), 1 << 1 | 1 << 2 | 1 << 3);
         due("qx", objectsBehind(3, "Ex&qx"), 1 << 4);
@@ -1114,7 +967,7 @@ public final class PromiseTests {
         due("x=z", objectsBehind(3, "Ez&qz&Ex&x=z"), 1 << 4);
         due("x<x", objectsBehind(3, "Ex&x<x"), 254);
         due("x=x", objectsBehind(1, "Ex&x=x"), 2);
-        DiscourseContexts d = fresh(3);
+        DiscourseContexts d = world(3);
         d.setPair(0, 0, 1, 1);
         d.setPair(0, 2, 1, 1);
         d.setPair(1, 1, 1, 1);
@@ -1132,7 +985,7 @@ public final class PromiseTests {
     }
 
     private static void meaningOfSigns() {
-        promise = 20;
+        promise(20);
         due("!", objectsBehind(3, "Ex&!px"), 254 - (1 << 1 | 1 << 2 | 1 << 3));
         due("!!", objectsBehind(3, "Ex&!!px"), 1 << 1 | 1 << 2 | 1 << 3);
         due("! binds a unit", objectsBehind(3, "Ex&!px&qx"), 1 << 4);
@@ -1150,7 +1003,7 @@ public final class PromiseTests {
         due("a choice keeps the assignment", objectsBehind(3, "Ex&qx&(Ex&px|Ex&rx)"), 1 << 4);
         due("a condition keeps the assignment", objectsBehind(3, "Ex&qx&(Ex&px>Ex)"), 1 << 4);
         due("a group gives its results on", objectsBehind(3, "(Ex&(px&#2x))"), 1 << 3);
-        DiscourseContexts d = fresh(2);
+        DiscourseContexts d = world(2);
         due("a scope makes nothing known", accept(d, "!(Ex&!(x=x))&(Ex|Ey)&(Ez>z=z)"), 1);
         due("known", d.known(), 0);
         due("| has results once", accept(d, "(Ex|Ey)"), 1);
@@ -1159,8 +1012,8 @@ public final class PromiseTests {
 
     /** Going through these assignment by assignment would not end. */
     private static void textsThatBlowUp() {
-        promise = 27;
-        DiscourseContexts d = fresh(3);
+        promise(27);
+        DiscourseContexts d = world(3);
         write(d, "Ex&Ey&Ez>Ex&Ey&Ez>Ex&Ey&Ez>Ex&Ey&Ez>Ex&Ey&Ez>Ex&Ey&Ez>x=x");
         due("worldsTrue", d.worldsTrue(), 64);
         due("supports", d.supports(), 1);

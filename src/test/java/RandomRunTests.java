@@ -66,6 +66,8 @@ public final class RandomRunTests {
 
     private void same(String call, int got, int want) {
         calls++;
+        // What later calls answer is free.
+        if (calls > CALLS) return;
         told.append(call).append(" = ").append(want).append('\n');
         if (got != want && !failed) {
             failed = true;
