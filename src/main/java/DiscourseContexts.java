@@ -976,7 +976,7 @@ public final class DiscourseContexts {
          * Turns a set into that of all results of the node for its assignments, or, going back,
          * into that of all assignments for which the node has a result in the set.
          */
-        void turn(Node node, Assignments set, boolean back) {
+        private void turn(Node node, Assignments set, boolean back) {
             if (node == null) {
                 return;
             }
@@ -1010,7 +1010,7 @@ public final class DiscourseContexts {
         }
 
         /** Turns a set into that of all assignments for which the node has results. */
-        void findSupporting(Node node, Assignments set) {
+        private void findSupporting(Node node, Assignments set) {
             set.fill(-1L);
             turn(node, set, true);
         }

@@ -40,6 +40,11 @@ abstract class Checks {
         about = "promise " + number + ", '" + sentence + "'";
     }
 
+    /** A sentence that stands ahead of the promises, in the section named. */
+    static void sentence(String section, String sentence) {
+        about = section + ", '" + sentence + "'";
+    }
+
     static void due(String what, int got, int want) {
         if (got != want) {
             wrong++;
