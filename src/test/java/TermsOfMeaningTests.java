@@ -1,6 +1,9 @@
+import java.util.ArrayList;
+import java.util.List;
+
 /**
- * The section "Meaning", sentence by sentence. Contexts in which all three variables are known are compared
- * with the condition that their assignments should fulfil, assignment by assignment.
+ * The section "Meaning", sentence by sentence. Contexts are compared with the condition that their assignments
+ * should fulfil, assignment by assignment.
  */
 public final class TermsOfMeaningTests extends Checks {
     /** Whether an assignment, the objects of x, y and z, is in a set; n is the number of individuals. */
@@ -107,8 +110,8 @@ public final class TermsOfMeaningTests extends Checks {
         return reaching == one && reached == other;
     }
 
-    /** A world with sets of all kinds, and the context in which each of the three variables can have each object. */
-    private static DiscourseContexts furnished(int n) {
+    /** A world with sets of all kinds, and the context in which each variable of a set of them can have each object. */
+    private static DiscourseContexts furnished(int n, int known) {
         DiscourseContexts d = world(n);
         for (int predicate : PREDICATES) d.setPredicate(predicate, setOf(n, predicate));
         for (int relation : RELATIONS) {
@@ -116,36 +119,55 @@ public final class TermsOfMeaningTests extends Checks {
                 if (pair / 3 < n && pair % 3 < n) d.setPair(relation, pair / 3, pair % 3, PAIRS[relation] >> pair & 1);
             }
         }
-        accept(d, "Ex;Ey;Ez");
+        for (int v : VARIABLES) {
+            if ((known >> v & 1) == 1) accept(d, "E" + name(v));
+        }
         return d;
     }
 
-    /** Accepts the texts, one behind the other, and compares the context with the condition. */
+    /** All assignments that give objects to the variables of a set, and 0 to the others. */
+    private static List<int[]> assignments(int n, int known) {
+        List<int[]> assignments = new ArrayList<>();
+        for (int number = 0; number < 512; number++) {
+            int[] g = {number & 7, number >> 3 & 7, number >> 6};
+            boolean exists = true;
+            for (int v : VARIABLES) exists &= (known >> v & 1) == 1 ? g[v] >= 1 && g[v] <= everybody(n) : g[v] == 0;
+            if (exists) assignments.add(g);
+        }
+        return assignments;
+    }
+
+    /** Accepts the texts, one behind the other, in each context in which their variables are known, and compares it with the condition. */
     private static void context(Condition condition, String... texts) {
-        for (int n : WORLDS) {
-            DiscourseContexts d = furnished(n);
-            for (String text : texts) accept(d, text);
-            compare(String.join(", ", texts) + ", n is " + n, n, d, condition);
+        String together = String.join(", ", texts);
+        for (int known = 1; known < 8; known++) {
+            boolean enough = true;
+            for (int v : VARIABLES) enough &= together.indexOf(name(v)) < 0 || (known >> v & 1) == 1;
+            for (int n = 1; enough && n <= 3; n++) {
+                DiscourseContexts d = furnished(n, known);
+                for (String text : texts) accept(d, text);
+                compare(together + ", n is " + n, n, known, d, condition);
+            }
         }
     }
 
-    private static void compare(String texts, int n, DiscourseContexts d, Condition condition) {
+    private static void compare(String texts, int n, int known, DiscourseContexts d, Condition condition) {
         int size = 0;
         int[][] counts = new int[3][64];
-        for (int number = 0; number < 512; number++) {
-            int[] g = {number & 7, number >> 3 & 7, number >> 6};
-            boolean exists = g[X] > 0 && g[Y] > 0 && g[Z] > 0 && (g[X] | g[Y] | g[Z]) <= everybody(n);
-            if (!exists || !condition.holds(n, g)) continue;
+        for (int[] g : assignments(n, known)) {
+            if (!condition.holds(n, g)) continue;
             size++;
             for (int v : VARIABLES) counts[v][8 * g[v] + g[(v + 1) % 3]]++;
         }
+        due("known() behind " + texts, d.known(), known);
         due("contextSize() behind " + texts, d.contextSize(), size);
         for (int v : VARIABLES) {
             int u = (v + 1) % 3;
+            boolean bothKnown = (known >> v & known >> u & 1) == 1;
             for (int one = 1; one <= everybody(n); one++) {
                 for (int other = 1; other <= everybody(n); other++) {
                     due("together(" + v + ", " + one + ", " + u + ", " + other + ") behind " + texts,
-                        d.together(v, one, u, other), counts[v][8 * one + other]);
+                        d.together(v, one, u, other), bothKnown ? counts[v][8 * one + other] : NONE);
                 }
             }
         }
@@ -282,6 +304,7 @@ public final class TermsOfMeaningTests extends Checks {
         for (Test a : TESTS) {
             for (Test b : TESTS) {
                 context(either(a.condition, b.condition), a.text + "|" + b.text);
+                context(either(a.condition, b.condition), "y=y|y=y", a.text + "|" + b.text);
                 context(either(some(Y, a.condition), b.condition), "Ey&" + a.text + "|" + b.text);
                 context(either(a.condition, some(Y, b.condition)), a.text + "|Ey&" + b.text);
                 context(either(a.condition, b.condition), a.text + "&Ey|" + b.text + "&Ez");
@@ -371,12 +394,8 @@ public final class TermsOfMeaningTests extends Checks {
     private static void supported(Test ahead, String text, Condition hasResults) {
         for (int n : WORLDS) {
             boolean supported = true;
-            for (int number = 0; number < 512; number++) {
-                int[] g = {number & 7, number >> 3 & 7, number >> 6};
-                boolean exists = g[X] > 0 && g[Y] > 0 && g[Z] > 0 && (g[X] | g[Y] | g[Z]) <= everybody(n);
-                supported &= !exists || !ahead.condition.holds(n, g) || hasResults.holds(n, g);
-            }
-            DiscourseContexts d = furnished(n);
+            for (int[] g : assignments(n, 7)) supported &= !ahead.condition.holds(n, g) || hasResults.holds(n, g);
+            DiscourseContexts d = furnished(n, 7);
             accept(d, ahead.text);
             String call = " of " + text + " behind " + ahead.text + ", n is " + n;
             due("supports()" + call, write(d, text).supports(), supported ? 1 : 0);

@@ -446,7 +446,7 @@ public final class TermsTests extends Checks {
     /** Each action, with arguments for which it succeeds behind the text Ez. */
     private static final Call[] ACTIONS = {
         d -> d.setIndividuals(3), d -> d.setPredicate(2, 1), d -> d.setPair(1, 0, 0, 1), DiscourseContexts::resetContext,
-        d -> d.setAccommodation(1), DiscourseContexts::accept};
+        d -> d.setAccommodation(0), d -> d.setAccommodation(1), DiscourseContexts::accept};
 
     private static void aHistoryOfFiveStates() {
         sentence("Undo", "A history of at most 5 states is kept");
