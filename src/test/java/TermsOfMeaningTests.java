@@ -204,6 +204,9 @@ public final class TermsOfMeaningTests extends Checks {
                 context(some(v, test.condition), test.text + "&E" + name(v));
                 for (int u : VARIABLES) context(some(u, some(v, test.condition)), test.text + "&E" + name(v) + "&E" + name(u));
             }
+            // Where each object is ruled out there are no results.
+            context((n, g) -> true, "!(E" + name(v) + "&!" + name(v) + "=" + name(v) + ")");
+            context((n, g) -> false, "!" + name(v) + "=" + name(v), "E" + name(v));
             for (int n : WORLDS) {
                 DiscourseContexts d = knowing(n, "E" + name(v));
                 due("contextSize() behind E" + name(v), d.contextSize(), everybody(n));
@@ -314,6 +317,17 @@ public final class TermsOfMeaningTests extends Checks {
                 }
             }
             context((n, g) -> true, "Ey|" + a.text);
+        }
+        for (int v : VARIABLES) {
+            Condition p = (n, g) -> (g[v] & ~setOf(n, 0)) == 0;
+            Condition q = (n, g) -> (g[v] & ~setOf(n, 1)) == 0;
+            context(either(p, q), "p" + name(v) + "|q" + name(v));
+            context(not(either(p, q)), "!(p" + name(v) + "|q" + name(v) + ")");
+            context((n, g) -> false, "!E" + name(v) + "|!" + name(v) + "=" + name(v));
+            for (int n : WORLDS) {
+                due("accept() of a choice of !E" + name(v), accept(world(n), "!E" + name(v) + "|!E" + name(v)), 0);
+                due("accept() of a choice of E" + name(v), accept(world(n), "!E" + name(v) + "|E" + name(v)), 1);
+            }
         }
     }
 
